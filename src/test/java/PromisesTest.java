@@ -200,7 +200,7 @@ public final class PromisesTest {
         due("7: a read and a write", with(0, READ, 0, 1, WRITE, 0).kinds(), 2);
         due("7: two reads and a write", with(0, READ, 0, 1, READ, 0, 2, WRITE, 0).kinds(), 4);
         due("7: a lock is no variable", with(0, UNLOCK + 1, 0, 1, WRITE + 1, 0).kinds(), 1);
-        due("7: a step moved past two", with(2, READ, 0, 1, WRITE, 1, 0, WRITE + 1, 1).kinds(), 2);
+        due("7: a step moved past two", with(2, READ, 0, 0, WRITE, 1, 1, WRITE + 1, 1).kinds(), 2);
         due("7: stuck ones count", embrace().kinds(), 3);
     }
 
@@ -324,6 +324,10 @@ public final class PromisesTest {
         due("14: no complete run", z.before(0, 1), 0);
         due("14: drop", z.drop(0), 1);
         due("14: no such step any more", z.before(0, 1), -2);
+        TraceExplorer gone = with(0, READ, 0, 1, READ, 0, 2, LOCK, 0);
+        due("14: while there are complete runs", gone.before(0, 4), 1);
+        due("14: step", gone.step(2, LOCK, 0), 2);
+        due("14: when there are none any more", gone.before(0, 4), 0);
     }
 
     private static void promise15Tied() {
@@ -391,6 +395,8 @@ public final class PromisesTest {
         due("ADD modulo 8", with(0, WRITE, 6, 0, ADD, 7).nextResult(-1), 64 * 5);
         due("each thread has its own accumulator",
                 with(0, WRITE, 6, 0, READ, 0, 1, STORE + 1, 1).kindsOf(64 * 6 + 8), 1);
+        due("every run begins with accumulators of 0",
+                with(0, STORE + 1, 0, 0, READ, 0, 1, WRITE, 3, 2, WRITE, 3).results(), 1);
         due("UNLOCK gives back", with(0, LOCK + 1, 0, 0, UNLOCK + 1, 0, 0, LOCK + 1, 0).stuckKinds(), 0);
         due("UNLOCK of the other lock", with(0, LOCK + 1, 0, 0, UNLOCK, 0, 0, LOCK + 1, 0).stuckKinds(), 1);
         due("UNLOCK of a lock not held", with(0, UNLOCK, 0, 0, UNLOCK, 0, 0, LOCK, 0).stuckKinds(), 0);
