@@ -25,6 +25,7 @@ public final class PromisesTest {
         promise15Tied();
         promise16ShortestStuck();
         operations();
+        exampleOfTheReadme();
         Due.end();
     }
 
@@ -205,5 +206,23 @@ public final class PromisesTest {
         due("STORE of a fresh accumulator", with(0, STORE + 1, 5).nextResult(-1), 8 * 5);
         due("ADD", with(0, WRITE, 2, 0, ADD, 4).nextResult(-1), 64 * 6);
         due("LOCK and UNLOCK", with(0, LOCK + 1, 0, 0, UNLOCK + 1, 0, 0, LOCK + 1, 0).stuckKinds(), 0);
+    }
+
+    /** README.md shows these calls with these answers, one after the other. */
+    private static void exampleOfTheReadme() {
+        TraceExplorer x = new TraceExplorer();
+        due("README: step", x.step(0, 8 * 0 + 0, 0), 1);
+        due("README: step", x.step(0, 8 * 2 + 0, 1), 2);
+        due("README: step", x.step(1, 8 * 3 + 0, 2), 1);
+        due("README: runs", x.runs(), 3);
+        due("README: kinds", x.kinds(), 3);
+        due("README: results", x.results(), 2);
+        due("README: nextResult", x.nextResult(-1), 64);
+        due("README: nextResult", x.nextResult(64), 192);
+        due("README: nextResult", x.nextResult(192), -1);
+        due("README: kindsOf", x.kindsOf(192), 2);
+        due("README: endings", x.endings(0), 5);
+        due("README: before", x.before(4, 1), 1);
+        due("README: step", x.step(1, 8 * 6 + 0, 0), -2);
     }
 }
